@@ -1258,7 +1258,7 @@ public final class LoopsBelow {
         }
 
         /** A row of so many CLOTHS (a set) stands; LINT is as it left it. */
-        void extend(int length, int used, int spoilt, int first) {
+        private void extend(int length, int used, int spoilt, int first) {
             if (spoilt >= fewest) {
                 return;
             }
