@@ -53,6 +53,11 @@ public final class ClothsTest {
         Due.is("scrap by m 3", x.ofCloth(0, 6), 2);
         x.become(0, 56);
         Due.is("curtain by m even", x.ofCloth(0, 5), 2);
+        x.become(0, 53);
+        Due.is("curtain by m odd", x.ofCloth(0, 5), 1);
+        x.become(0, 38);
+        Due.is("knit by m 8", x.ofCloth(0, 5), 4);
+        x.become(0, 50);
         Due.text(x, 0, "k*3");
         Due.is("k is the cloth's own KIND", x.ofCloth(0, 5), 15);
         x.become(0, 40);

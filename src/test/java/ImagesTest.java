@@ -89,6 +89,8 @@ public final class ImagesTest {
     private static void checking() {
         LoopsBelow x = new LoopsBelow();
         x.cloth(20, 0);
+        x.tell(2);
+        Due.is("one cloth is enough", x.check(), 0);
         x.cloth(69, 9);
         for (int i = 1; i <= 20; i++) {
             x.tell(i < 10 ? 2 : 0);

@@ -76,6 +76,12 @@ public final class TextsTest {
         value("2=2", 1);
         value("3>2", 1);
         value("2>3", 0);
+        value("2=3", 0);
+        value("2>2", 0);
+        value("1&1", 1);
+        value("7%4*2", 6);
+        value("2*7%4", 2);
+        value("9%5+9%4", 5);
         value("1+1=2", 1);
         value("5&3", 1);
         value("5&0", 0);

@@ -117,6 +117,11 @@ public final class ThoughtTest {
         // OFF is -4, three too many: two of the KNOB and one of the SCREW are 9, as clean is.
         Due.is("9 either way", v.cure(0, 0), 9);
         Due.is("of several the least number", v.cure(0, 1), 90);
+        LoopsBelow u = new LoopsBelow();
+        u.cloth(10, 0);
+        u.set(1, 0);
+        Due.is("the number may be 0", u.cure(0, 1), 0);
+        Due.is("and the SECONDS", u.cure(0, 0), 0);
     }
 
     private static void aloneDeeds() {
@@ -197,6 +202,7 @@ public final class ThoughtTest {
         x.put(0, 2, -1);
         // All CAN BEs show the scrap even; the others tell them apart, the first of the two.
         Due.is("the first that tells", x.tellsMost(0), 1);
+        Due.is("a good needle, a bent one, each by the same ways", x.canBe(0, 0), 2 * (10 + 9 + 8 + 7 + 6 + 5 + 4 + 3 + 2));
         x.put(0, 0, 5);
         Due.is("it CAN'T BE: all tell the same", x.tellsMost(0), 0);
         x.put(0, 0, -1);
@@ -249,6 +255,7 @@ public final class ThoughtTest {
         Due.is("silk ahead", x.row(2, 10, 0), 0);
         Due.is("silk is first", x.row(2, 10, 1), 1);
         Due.is("one of them", x.row(1, 20, 1), 0);
+        Due.is("one of one yard", x.row(1, 1, 0), 0);
         Due.is("one, none spoilt", x.row(1, 20, 0), 0);
         // Silk first: 10 of its 20, then CLOTH at LINT 30, 10 more. CLOTH first: none, then all 20 of silk.
         Due.is("20 either way", x.row(2, 20, 0), 20);

@@ -83,9 +83,17 @@ public final class YardsTest {
         Due.is("knob up from 9", x.deed(3), Due.STATE);
         x.set(1, 0);
         Due.is("knob down from 0", x.deed(4), Due.STATE);
+        x.set(1, 1);
+        Due.is("knob down from 1", x.deed(4), 56);
+        x.set(1, 8);
+        Due.is("knob up from 8", x.deed(3), 58);
+        x.set(2, 8);
+        Due.is("screw up from 8", x.deed(5), 63);
+        x.set(2, 1);
+        Due.is("screw down from 1", x.deed(6), 68);
         Due.is("no deed", x.deed(7), Due.BEYOND);
         Due.is("no deed below", x.deed(-1), Due.BEYOND);
-        Due.is("no time for these", x.count(1), 54);
+        Due.is("no time for these", x.count(1), 68);
         Due.is("counted", x.told(3), 4);
     }
 
