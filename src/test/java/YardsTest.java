@@ -154,6 +154,34 @@ public final class YardsTest {
         }
         Due.is("two draws each", x.count(7), z);
         deedsOfSeeds();
+        eveningsWithoutCloths();
+    }
+
+    /** Without CLOTHS DEEDS alone take time, but each EVENING is asked for with its 30 SECONDS. */
+    private static void eveningsWithoutCloths() {
+        int[] seconds = {11, 20, 9, 2, 2, 5, 5};
+        LoopsBelow x = new LoopsBelow();
+        int z = 1;
+        int knob = 4;
+        int screw = 0;
+        int second = 0;
+        while (second + 1200 <= 99999) {
+            Due.is("40 evenings at " + second, x.loose(40), 0);
+            for (int i = 0; i < 40; i++) {
+                z = drawn(z);
+                int deed = (z >>> 8) % 7;
+                z = drawn(z);
+                boolean can = deed == 3 ? knob < 9 : deed == 4 ? knob > 0 : deed == 5 ? screw < 9 : deed != 6 || screw > 0;
+                knob += !can ? 0 : deed == 3 ? 1 : deed == 4 ? -1 : 0;
+                screw += !can ? 0 : deed == 5 ? 1 : deed == 6 ? -1 : 0;
+                second += can ? seconds[deed] : 0;
+            }
+        }
+        Due.is("40 are too many", x.loose(40), Due.STATE);
+        Due.is("SECOND", x.count(1), second);
+        int fit = (99999 - second) / 30;
+        Due.is("one more than fit", x.loose(fit + 1), Due.STATE);
+        Due.is("as many as fit", x.loose(fit), 0);
     }
 
     /** One EVENING by each of some seeds: the DEED by 7, the cloth by how many there are. */
